@@ -16,6 +16,7 @@ public final class ChartParser {
     private static final int NONTERMINALS = 5;
     private static final int MOST_PRODUCTIONS = 12;
     private static final int WIDTH = 3;
+    private static final int RIGHT_SYMBOLS = MOST_PRODUCTIONS * WIDTH;
     private static final int MOST_TOKENS = 10;
     private static final int OPS = 8;
     private static final int PLACES = MOST_TOKENS + 1;
@@ -31,7 +32,7 @@ public final class ChartParser {
     private static final int FAR = 1000000;
 
     private final int[] lefts = new int[MOST_PRODUCTIONS];
-    private final int[] rights = new int[MOST_PRODUCTIONS * WIDTH];
+    private final int[] rights = new int[RIGHT_SYMBOLS];
     private final int[] ops = new int[MOST_PRODUCTIONS];
     private final int[] constants = new int[MOST_PRODUCTIONS];
     private int productions = 0;
@@ -346,14 +347,18 @@ public final class ChartParser {
 
     /** Whether i to j can be the part of the symbol, with a tree lower than h if it is a nonterminal. */
     private boolean fits(int symbol, int i, int j, int h) {
-        if (symbol == ABSENT) {
-            return i == j;
-        }
         if (symbol < START) {
-            return j == i + 1 && text[i] == symbol;
+            return fitsTreeless(symbol, i, j);
         }
         int least = heights[cell(symbol, i, j)];
         return least > 0 && least < h;
+    }
+
+    private boolean fitsTreeless(int symbol, int i, int j) {
+        if (symbol == ABSENT) {
+            return i == j;
+        }
+        return j == i + 1 && text[i] == symbol;
     }
 
     // ---- how many trees ----
@@ -368,21 +373,16 @@ public final class ChartParser {
         }
         boolean changed = true;
         for (int round = 0; round <= CELLS && changed; round++) {
-            changed = countMore();
-        }
-        countsReady = true;
-    }
-
-    private boolean countMore() {
-        boolean changed = false;
-        for (int k = 0; k < filled; k++) {
-            int at = order[k];
-            if (counts[at] == ENDLESS) {
-                counts[at] = countCell(at);
-                changed = changed || counts[at] != ENDLESS;
+            changed = false;
+            for (int k = 0; k < filled; k++) {
+                int at = order[k];
+                if (counts[at] == ENDLESS) {
+                    counts[at] = countCell(at);
+                    changed = changed || counts[at] != ENDLESS;
+                }
             }
         }
-        return changed;
+        countsReady = true;
     }
 
     private int countCell(int at) {
@@ -426,7 +426,7 @@ public final class ChartParser {
         if (symbol >= START) {
             return counts[cell(symbol, i, j)];
         }
-        return fits(symbol, i, j, ANY_HEIGHT) ? 1 : 0;
+        return fitsTreeless(symbol, i, j) ? 1 : 0;
     }
 
     private static long atMost(long count) {
