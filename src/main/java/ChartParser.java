@@ -291,8 +291,8 @@ public final class ChartParser {
 
     // ---- the chart: least heights and chosen trees ----
 
-    // An absent symbol has the empty part alone. So a division is always one into three parts, and a shorter
-    // right side has none twice.
+    // Every division is one into three parts: an absent symbol takes the empty part alone, so that a shorter right
+    // side is divided in no more ways than it should be.
 
     private void needChart() {
         if (chartReady) {
