@@ -1,68 +1,13 @@
 /** Answers worked out by hand, promise by promise: ordinary inputs, the edges that the document names, and wrong inputs. */
-public final class ChartParserPromises {
-    private static final int LOW = -2147483648;
-    private static final int HIGH = 2147483647;
-    private static final long NONE = ChartParser.NONE;
+public final class ChartParserPromises extends Trial {
     private static final int[] WRONG_NONTERMINALS = {LOW, -1, 0, 5, 9, 15, 100, HIGH};
 
-    private static int wrong = 0;
-
     private static void due(int promise, String call, long got, long want) {
-        if (got != want) {
-            wrong++;
-            System.out.println("promise " + promise + ": " + call + " answered " + got + ", due is " + want);
-        }
+        due("promise " + promise + ": " + call, got, want);
     }
 
     private static void due(int promise, String call, boolean got, boolean want) {
-        due(promise, call, got ? 1L : 0L, want ? 1L : 0L);
-    }
-
-    /** An object with these productions, each a left side and its symbols, and this text. */
-    private static ChartParser parser(int[][] rules, int... text) {
-        ChartParser x = new ChartParser();
-        for (int[] r : rules) {
-            x.produce(r[0], r.length > 1 ? r[1] : -1, r.length > 2 ? r[2] : -1, r.length > 3 ? r[3] : -1);
-        }
-        write(x, text);
-        return x;
-    }
-
-    private static void write(ChartParser x, int... text) {
-        while (x.erase(0)) {
-            continue;
-        }
-        for (int k = 0; k < text.length; k++) {
-            x.insert(k, text[k]);
-        }
-    }
-
-    private static int[][] rules(int[]... all) {
-        return all;
-    }
-
-    private static int[] r(int... rule) {
-        return rule;
-    }
-
-    /** Every question that bears on n, put to two objects that should be alike: fewer than 512 calls of each. */
-    private static void alike(int promise, String what, ChartParser x, ChartParser y, int n) {
-        due(promise, what + ": errorAt()", x.errorAt(), y.errorAt());
-        due(promise, what + ": traits(" + n + ")", x.traits(n), y.traits(n));
-        for (int i = 0; i <= 10; i++) {
-            due(promise, what + ": longest(" + n + ", " + i + ")", x.longest(n, i), y.longest(n, i));
-            for (int j = i; j <= 10; j++) {
-                String span = "(" + n + ", " + i + ", " + j + ")";
-                due(promise, what + ": trees" + span, x.trees(n, i, j), y.trees(n, i, j));
-                due(promise, what + ": height" + span, x.height(n, i, j), y.height(n, i, j));
-                due(promise, what + ": value" + span, x.value(n, i, j), y.value(n, i, j));
-                due(promise, what + ": distance" + span, x.distance(n, i, j), y.distance(n, i, j));
-            }
-        }
-        for (int k = 0; k <= 20; k++) {
-            due(promise, what + ": expected(" + k + ")", x.expected(k), y.expected(k));
-            due(promise, what + ": node(" + k + ")", x.node(k), y.node(k));
-        }
+        due("promise " + promise + ": " + call, got, want);
     }
 
     private static void newObject() {
@@ -694,19 +639,19 @@ public final class ChartParserPromises {
         for (int n = 10; n <= 14; n++) {
             ChartParser x = ordinary();
             refuse(x);
-            alike(18, "after refusals", x, ordinary(), n);
+            alike("promise 18: after refusals", x, ordinary(), n);
             ChartParser y = full();
             refuse(y);
             due(18, "produce beyond the limit", y.produce(10, 1, -1, -1), -2);
             due(18, "insert beyond the limit", y.insert(0, 1), false);
             due(18, "insert beyond the limit", y.insert(10, 1), false);
-            alike(18, "after limits were reached", y, full(), n);
+            alike("promise 18: after limits were reached", y, full(), n);
             ChartParser z = new ChartParser();
             refuse(z);
             z.retract();
             z.erase(0);
             z.set(0, 0);
-            alike(18, "after nothing was there", z, new ChartParser(), n);
+            alike("promise 18: after nothing was there", z, new ChartParser(), n);
             due(18, "produce after refusals", z.produce(10, 0, -1, -1), 0);
             due(18, "insert after refusals", z.insert(0, 0), true);
             due(18, "errorAt() after refusals", z.errorAt(), -1);
@@ -728,6 +673,7 @@ public final class ChartParserPromises {
     }
 
     public static void main(String[] args) {
+        about("by hand");
         newObject();
         produce();
         retract();
@@ -748,9 +694,6 @@ public final class ChartParserPromises {
         traits();
         refusals();
         readme();
-        System.out.println(wrong == 0 ? "all answers are as due" : wrong + " answers are not as due");
-        if (wrong != 0) {
-            System.exit(1);
-        }
+        finish();
     }
 }
