@@ -197,7 +197,7 @@ public final class ChartParserPromiseBoundaries extends Trial {
     /** The text as far as it has tokens, read by way of the values of single ones, as one number with a 9 before it. */
     private static long textOf(ChartParser x) {
         long read = 9;
-        for (int k = 0; x.expected(k + 1) != -1; k++) {
+        for (int k = 0; k <= 10 && x.expected(k + 1) != -1; k++) {
             read = 10 * read + x.value(14, k, k + 1);
         }
         return read;
@@ -420,6 +420,7 @@ public final class ChartParserPromiseBoundaries extends Trial {
         due("an endless part", x.trees(10, 0, 2), -3);
         due("an endless part that is not there", x.trees(13, 1, 2), 1);
         due("beside it", x.trees(14, 0, 1), 1);
+        endlessInEachPart();
         // More than the limit and endlessly many: endlessly many.
         ChartParser y = parser(oneBelowTheLimit());
         y.produce(10, 10, -1, -1);
@@ -429,6 +430,26 @@ public final class ChartParserPromiseBoundaries extends Trial {
         ChartParser z = parser(rules(r(10, 11), r(11, 11), r(10, 0), r(12, 12, 10), r(12, 10)), 0);
         due("a ring without an end", z.trees(10, 0, 1), 1);
         due("no ring, as 10 is never empty", z.trees(12, 0, 1), 1);
+    }
+
+    private static void endlessInEachPart() {
+        // 11 is endless over a 0, 12 has two trees over a 1, and nothing has one over a 5.
+        for (int first = 0; first < 3; first++) {
+            int[] endless = r(10, 12, 12, 12);
+            int[] lacking = r(13, 12, 12, 12);
+            int[] text = times(3, 1);
+            endless[1 + first] = 11;
+            lacking[1 + first] = 11;
+            lacking[1 + (first + 1) % 3] = 5;
+            text[first] = 0;
+            ChartParser x = parser(rules(r(11, 11), r(11, 0), r(12, 1), r(12, 1), endless, lacking, r(13, text[0], text[1], text[2])), text);
+            due("part " + first + " endless, the others two each", x.trees(10, 0, 3), -3);
+            due("part " + first + " endless, another not there", x.trees(13, 0, 3), 1);
+        }
+        ChartParser y = parser(rules(r(11, 11), r(11, 0), r(12, 1), r(13, 11, 12, 5), r(13, 0, 1), r(14, 5, 12, 11), r(14, 1, 0)), 0, 1);
+        due("the first part endless, the last not there", y.trees(13, 0, 2), 1);
+        write(y, 1, 0);
+        due("the last part endless, the first not there", y.trees(14, 0, 2), 1);
     }
 
     private static void noTrees() {
@@ -727,6 +748,13 @@ public final class ChartParserPromiseBoundaries extends Trial {
         due("traits(10)", x.traits(10), 5);
         due("traits(11)", x.traits(11), 7);
         due("traits(12), only outside of the start", x.traits(12), 1);
+        x.produce(12, 13, -1, -1);
+        x.produce(13, 0, -1, -1);
+        due("traits(13), part of what is outside of the start", x.traits(13), 1);
+        x.produce(10, 13, 14, -1);
+        due("traits(13), part of the start beside what is not productive", x.traits(13), 1);
+        x.produce(14, -1, -1, -1);
+        due("traits(13), part of the start", x.traits(13), 5);
         // Each only by way of the one before it, the last one put first.
         ChartParser y = parser(rules(r(14, 0), r(13, 14), r(12, 13), r(11, 12), r(10, 11)));
         for (int n = 10; n <= 14; n++) {

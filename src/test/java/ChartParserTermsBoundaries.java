@@ -240,6 +240,7 @@ public final class ChartParserTermsBoundaries extends Trial {
         due("trees(10, 0, 0) with an empty one twice", x.trees(10, 0, 0), 4);
         x.produce(10, 11, 11, -1);
         due("trees(10, 0, 1) with all of it twice", x.trees(10, 0, 1), 8);
+        due("trees(10, 0, 1) of one three times", parser(rules(r(10, 0), r(10, 0), r(10, 0)), 0).trees(10, 0, 1), 3);
     }
 
     private static void lowestHeight() {
@@ -325,6 +326,9 @@ public final class ChartParserTermsBoundaries extends Trial {
         due("node(0): the first one is as low as the other", x.node(0), 1);
         due("node(1)", x.node(1), 10001);
         due("node(2)", x.node(2), -1);
+        ChartParser y = parser(rules(r(11, 0), r(10, 11), r(10, 0)), 0);
+        due("node(0): the last one, though the one before it could be made first", y.node(0), 20001);
+        due("node(1)", y.node(1), -1);
     }
 
     private static void leastNumber() {
@@ -653,6 +657,7 @@ public final class ChartParserTermsBoundaries extends Trial {
         ChartParser x = parser(rules(r(10, 0, 0, 0), r(10, 1, 2)), 0, 1, 1);
         due("the nearer of two texts", x.distance(10, 0, 3), 2);
         due("nothing to the shorter one", x.distance(10, 0, 0), 2);
+        due("the nearest division of all", parser(rules(r(10, 0, 1, 2)), 0, 1, 2, 3).distance(10, 0, 4), 1);
         due("a part alone", x.distance(10, 1, 2), 1);
         x.produce(10, 10, 10, -1);
         x.produce(10, -1, -1, -1);

@@ -12,10 +12,15 @@ abstract class Trial {
         about = what;
     }
 
-    /** A test of its own for one sentence of the document. */
+    /** A test of its own for one sentence of the document: a call that throws breaks this sentence alone. */
     static void boundary(String sentence, Runnable test) {
         about = sentence;
-        test.run();
+        try {
+            test.run();
+        } catch (RuntimeException thrown) {
+            wrong++;
+            System.out.println(about + ": a call has thrown " + thrown);
+        }
     }
 
     static void due(String call, long got, long want) {
