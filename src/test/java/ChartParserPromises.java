@@ -658,20 +658,6 @@ public final class ChartParserPromises extends Trial {
         }
     }
 
-    private static void readme() {
-        ChartParser x = parser(rules(r(10, 10, 0, 10), r(10, 1)), 1, 0, 1);
-        x.action(0, 2, 1);
-        due(0, "README: derives", x.derives(10, 0, 3), true);
-        due(0, "README: trees", x.trees(10, 0, 3), 1);
-        due(0, "README: height", x.height(10, 0, 3), 2);
-        due(0, "README: value", x.value(10, 0, 3), 0);
-        due(0, "README: node", x.node(2), 10203);
-        x.erase(1);
-        due(0, "README: errorAt", x.errorAt(), 1);
-        due(0, "README: expected", x.expected(1), 65);
-        due(0, "README: distance", x.distance(10, 0, 2), 1);
-    }
-
     public static void main(String[] args) {
         about("by hand");
         newObject();
@@ -693,7 +679,6 @@ public final class ChartParserPromises extends Trial {
         expected();
         traits();
         refusals();
-        readme();
         finish();
     }
 }

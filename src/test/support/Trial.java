@@ -34,6 +34,14 @@ abstract class Trial {
         due(call, got ? 1L : 0L, want ? 1L : 0L);
     }
 
+    /** For what is no answer of a call. */
+    static void require(String what, boolean held) {
+        if (!held) {
+            wrong++;
+            System.out.println(about + ": " + what);
+        }
+    }
+
     /** An object with these productions, each a left side and its symbols, and this text. */
     static ChartParser parser(int[][] rules, int... text) {
         ChartParser x = new ChartParser();
